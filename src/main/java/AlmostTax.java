@@ -124,6 +124,7 @@ public final class AlmostTax {
     private final Planner planner = new Planner();
     private final Receipts receipts = new Receipts();
     private final Helper helper = new Helper();
+    private final Fraction fraction = new Fraction();
     private final int[] livedFacts = new int[MOST_LIVED];
     private boolean hasLived;
     private int tapeLength;
@@ -131,7 +132,6 @@ public final class AlmostTax {
     private int lastStatus;
     private int faultKind = NONE;
     private int faultPlace = NONE;
-    private final Fraction fraction = new Fraction();
 
     public AlmostTax() {
         for (int i = 0; i < MOST_TRAYS; i++) {
@@ -1005,9 +1005,6 @@ public final class AlmostTax {
             rate[deeds] = newRate;
             hard[deeds] = newHard;
             cost[deeds] = newCost;
-            for (int p = 0; p < MOST_PAYERS; p++) {
-                steps[p][deeds] = 0;
-            }
             deeds++;
             return deeds - 1;
         }
@@ -1022,6 +1019,7 @@ public final class AlmostTax {
             wage[payers] = USUAL_WAGE;
             paid[payers] = 0;
             owed[payers] = 0;
+            // of the deeds that are yet to come, too
             Arrays.fill(steps[payers], 0);
             payers++;
             return payers - 1;
