@@ -525,6 +525,27 @@ final class Oracle {
     private int faultPlace = -1;
     private int[] lived = null;
 
+    /** Another one with the same past. */
+    Oracle copy() {
+        Oracle o = new Oracle();
+        o.s = s.copy();
+        for (State m : marks) {
+            o.marks.add(m.copy());
+        }
+        for (int t = 0; t < 4; t++) {
+            o.trays[t] = trays[t] == null ? null : trays[t].clone();
+            o.sorts[t] = sorts[t];
+        }
+        o.tape = tape;
+        o.status = status;
+        o.top = top;
+        o.bottom = bottom;
+        o.faultKind = faultKind;
+        o.faultPlace = faultPlace;
+        o.lived = lived == null ? null : lived.clone();
+        return o;
+    }
+
     private long no(int why) {
         status = why;
         return -1;
