@@ -63,6 +63,7 @@ public final class CallEdges {
         luckEdges();
         bearsEdges();
         fractionEdges();
+        aLandBehindAnother();
         C.finish();
     }
 
@@ -1295,5 +1296,53 @@ public final class CallEdges {
         C.due("its bottom", x.bottom(), 79);
         Check.decades(x, "year 1;");
         C.dueFraction("3 times 79 of 3", x, x.mean(0, 3), 79, 1);
+    }
+
+    // ---- what was asked ahead
+
+    private static String answers(AlmostTax x) {
+        StringBuilder b = new StringBuilder();
+        int[] none = {-1, 7, 8};
+        int[] asked = {x.help(), x.rounds(1), x.rounds(2), x.crew(0), x.crew(9), x.many(7), x.many(8), x.many(9)};
+        b.append(java.util.Arrays.toString(asked));
+        for (int p = 0; p < 6; p++) {
+            int[] of = {x.plan(p, 1), x.plan(p, 20), x.planSet(p, 3), x.owesIn(p), x.helped(p), x.bears(p) ? 1 : 0,
+                x.payer(p, 5), x.payer(p, 3), x.payer(p, 4), x.game(p, 1, 3), x.moveOf(p, 0, 3)};
+            b.append(java.util.Arrays.toString(of));
+            if (x.luck(p, 1)) {
+                b.append(x.top()).append('/').append(x.bottom());
+            }
+            for (int d = 0; d < 7; d++) {
+                b.append(x.lure(p, d, 5)).append(' ').append(x.near(p, d)).append(' ');
+            }
+        }
+        x.tray(0, 1, 2);
+        x.write(0, 0, 1);
+        x.write(0, 1, x.deed(0, 3));
+        for (int n = 0; n < 2; n++) {
+            int[] of = {x.fits(0, n), x.fitsAt(0, n, 1), x.sure(0, n), x.ask(0, n)};
+            b.append(java.util.Arrays.toString(of));
+        }
+        for (int bad : none) {
+            b.append(x.fitsAt(0, 0, bad)).append(' ');
+        }
+        return b.toString();
+    }
+
+    /** A LAND that is taken is there in place of that ahead, whatever was asked of that. */
+    private static void aLandBehindAnother() {
+        String[] lands = {"", "payer p house 3;payer q house 4;", "deed d rate 9 hard 3 cost 1;deed e rate 60 hard 2 cost 30;",
+            "deed d rate 9 hard 3 cost 1;payer p house 3;payer q house 9;near p d 2;", wants("ab", "b", "c"), FULL_LAND};
+        for (String land : lands) {
+            for (String ahead : new String[] {FULL_LAND, wants("g", "fg", "efg", "a", "ab", "abc")}) {
+                AlmostTax x = Check.landOf(ahead);
+                String first = answers(x);
+                C.due("asked again", answers(x).equals(first), true);
+                x = Check.landOf(ahead);
+                answers(x);
+                Check.land(x, land);
+                C.due("as on a new object: " + land, answers(x).equals(answers(Check.landOf(land))), true);
+            }
+        }
     }
 }

@@ -162,9 +162,19 @@ public final class LifeEdges {
         C.due("MISSED", x.lived(0), 3);
         AlmostTax y = new AlmostTax();
         y.dream(9, 9, 9);
-        due("without PAYERS", y, "any;any;any;", 3, 3, 0, 0, 0, 0);
+        for (int odds = 0; odds <= 16; odds += 16) {
+            y.rule(2, odds);
+            due("without PAYERS", y, "any;any;any;", 3, 3, 0, 0, 0, 0);
+        }
+        // where there were both ahead
+        AlmostTax z = Check.landOf("deed d rate 1 hard 9 cost 0;payer p house 0;near p d 4;");
+        for (int odds = 0; odds <= 16; odds += 16) {
+            Check.land(z, "odds " + odds + ";payer p house 0;");
+            due("without DEEDS that were", z, "any;any;any;", 3, 3, 0, 0, 0, 0);
+            Check.land(z, "odds " + odds + ";deed d rate 1 hard 9 cost 0;");
+            due("without PAYERS that were", z, "any;any;any;", 3, 3, 0, 0, 0, 0);
+        }
         y.come(5);
-        y.rule(2, 16);
         due("with one of each", y, "any;any;any;", 3, 0, 0, 0, 0, 0);
         C.due("near by 3", y.near(0, 0), 3);
     }
@@ -299,7 +309,10 @@ public final class LifeEdges {
                 dueTest(one.substring(0, one.length() - 2), one.endsWith("T"));
             }
         }
-        AlmostTax x = Check.landOf("payer p house 0 purse 999 wage 50;");
+        AlmostTax x = one();
+        due("each COMPARES by its own", x, "when near p d=1;when purse p>8;when near p d<2;year 1;end;end;end;", 4, 0, 1, 0, 6, 0);
+        due("each COMPARES by its own", x, "when near p d<2;when purse p=3;when purse p>2;year 1;end;end;end;", 4, 0, 1, 0, 3, 0);
+        x = Check.landOf("payer p house 0 purse 999 wage 50;");
         x.year(99);
         x.year(99);
         due("a full PURSE", x, "when purse p=9999;year 1;end;when purse p<9999;year 1;end;when purse p>9998;year 1;end;", 5, 0, 2, 0, 0, 0);

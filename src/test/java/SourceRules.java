@@ -1,9 +1,12 @@
+import java.lang.reflect.Array;
 import java.lang.reflect.Field;
 import java.lang.reflect.Method;
 import java.lang.reflect.Modifier;
 import java.nio.file.Files;
 import java.nio.file.Path;
 import java.util.Arrays;
+import java.util.IdentityHashMap;
+import java.util.Map;
 import java.util.Set;
 import java.util.TreeSet;
 import java.util.regex.Matcher;
@@ -27,6 +30,8 @@ public final class SourceRules {
         members();
         words(source);
         lengths(source);
+        nothingMadeBehindTheConstructor(source);
+        roomOfOneObject();
         C.finish();
     }
 
@@ -119,5 +124,45 @@ public final class SourceRules {
                 C.due(m.group(2) + " has " + (end - i + 1) + " lines", end - i + 1 <= 60, true);
             }
         }
+    }
+
+    /** All is made by fields' initialisers, and the rows of trays and marks by the constructor. */
+    private static void nothingMadeBehindTheConstructor(String source) {
+        for (String line : source.split("\n")) {
+            boolean makes = line.matches(".*\\bnew\\b (\\w+\\(|\\w+\\[).*") && !line.trim().matches("(//|/?\\*).*");
+            boolean field = line.matches("( {4}| {8})(private )?(final )?[\\w\\[\\]]+ \\w+ = new .*;");
+            boolean row = line.matches(" {12}(trays|marked)\\[i\\] = new \\w+\\(\\);");
+            C.due("made where it is kept: " + line.trim(), !makes || field || row, true);
+        }
+    }
+
+    /** The page's room (600,000 objects, 7,300,000 fields and elements) is for all objects of a run. */
+    private static void roomOfOneObject() throws Exception {
+        Map<Object, Boolean> seen = new IdentityHashMap<>();
+        long cells = cellsOf(new AlmostTax(), seen);
+        C.due("an object has at most 200 inside, but has " + seen.size(), seen.size() <= 200, true);
+        C.due("an object has at most 8,000 fields and elements, but has " + cells, cells <= 8000, true);
+    }
+
+    private static long cellsOf(Object one, Map<Object, Boolean> seen) throws Exception {
+        if (one == null || seen.put(one, true) != null) {
+            return 0;
+        }
+        long cells = 0;
+        if (one.getClass().isArray()) {
+            cells += Array.getLength(one);
+            for (int i = 0; !one.getClass().getComponentType().isPrimitive() && i < Array.getLength(one); i++) {
+                cells += cellsOf(Array.get(one, i), seen);
+            }
+            return cells;
+        }
+        for (Field f : one.getClass().getDeclaredFields()) {
+            if (!Modifier.isStatic(f.getModifiers())) {
+                cells++;
+                f.setAccessible(true);
+                cells += f.getType().isPrimitive() ? 0 : cellsOf(f.get(one), seen);
+            }
+        }
+        return cells;
     }
 }

@@ -656,6 +656,31 @@ public final class TextEdges {
         C.due("PURSE 50 again", x.payer(0, 1), 50);
         C.due("no DECADES: live()", x, x.live(0), -1, 8);
         C.due("no DECADES: mean()", x, x.mean(0, 1), false, 8);
+        aNewLandBehindMeansAndGames();
+    }
+
+    /** Means and games are tried in a LAND aside; nothing of these may come to the next one. */
+    private static void aNewLandBehindMeansAndGames() {
+        AlmostTax x = Check.landOf("odds 3;allow 2;deed d rate 60 hard 2 cost 0;payer p house 1 purse 5 wage 1;payer q house 1;near p d 1;near q d 1;");
+        x.year(3);
+        Check.decades(x, "year 20;");
+        x.mean(0, 2);
+        x.game(0, 1, 4);
+        C.due("a new LAND", x, Check.land(x, "deed d rate 60 hard 2 cost 0;payer p house 1;"), 1, 0);
+        x.come(7);
+        C.due("YEAR 0", x.many(4), 0);
+        for (int p = 0; p < 2; p++) {
+            C.due("has PAID nothing", x.payer(p, 3), 0);
+            C.due("OWES nothing", x.payer(p, 4), 0);
+            C.due("is near to nothing", x.near(p, 0), 0);
+        }
+        x.year(1);
+        Check.decades(x, "year 20;");
+        x.mean(0, 2);
+        Check.land(x, "");
+        C.due("YEAR 0 of the empty LAND", x.many(4), 0);
+        C.due("nobody has PAID", x.many(5), 0);
+        C.due("no DECADES", x, x.live(0), -1, 8);
     }
 
     /** fault(): of the latest of these with STATUS 0 or 10; NONE for others, and ahead of any. */
